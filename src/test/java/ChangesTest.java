@@ -21,6 +21,7 @@ public final class ChangesTest {
         promise10Pauses();
         promise10Delays();
         promise10Bound();
+        promise10FullHouse();
         due.end();
     }
 
@@ -429,5 +430,31 @@ public final class ChangesTest {
         x.job(60, 0, 2, 0, 9);
         x.begin(0, 1, NONE);
         due.is("19: the bound does not matter", x.doneIn(0), 2);
+    }
+
+    /** As many people and jobs as there can be, all at once. */
+    private static void promise10FullHouse() {
+        PianoCrews x = new PianoCrews();
+        for (int person = 0; person < 10; person++) {
+            x.person(60);
+        }
+        for (int job = 0; job < 16; job++) {
+            x.job(60, 0, 1, 0, 20);
+        }
+        due.is("7: ten of them", x.ifAssigned(), 0x3FF);
+        due.is("7: ten of them", x.assign(), 0x3FF);
+        due.is("7: the last one's crew", x.ofJob(9, 7), 1 << 9);
+        due.is("10: all ten", x.pass(1), 10);
+        // 56 each: one person with kind 1 (54) or kind 2 (48), two without straps or with kind 0 (57)
+        due.is("7: the others", x.assign(), 0xFC00);
+        due.is("7: with kind 1", x.ofJob(10, 8), 1);
+        due.is("7: with kind 1", x.ofJob(11, 8), 1);
+        due.is("7: with kind 2", x.ofJob(12, 8), 2);
+        due.is("7: with kind 2", x.ofJob(13, 8), 2);
+        due.is("7: without", x.ofJob(14, 8), NONE);
+        due.is("7: two people", x.ofJob(15, 7), 0b11000000);
+        due.is("10: the others", x.pass(1), 6);
+        due.is("15: all are done", x.count(6), 0xFFFF);
+        due.is("15: hours", x.count(8), 16);
     }
 }
