@@ -2,12 +2,29 @@
 final class Due {
     private int asked;
     private int wrong;
+    private String sentence = "";
+    private boolean proved = true;
+
+    /** The sentence of the document that the next answers prove: each one has some. */
+    void says(String words) {
+        needProof();
+        sentence = words + " -- ";
+        proved = false;
+    }
 
     void is(String call, long got, long want) {
         asked++;
+        proved = true;
         if (got != want) {
-            wrong++;
-            System.out.println(call + " answered " + got + ", due is " + want);
+            tell(call + " answered " + got + ", due is " + want);
+        }
+    }
+
+    void same(String call, String got, String want) {
+        asked++;
+        proved = true;
+        if (!got.equals(want)) {
+            tell(call + " answered " + got + ", due is " + want);
         }
     }
 
@@ -29,9 +46,21 @@ final class Due {
     }
 
     void end() {
+        needProof();
         System.out.println(asked + " answers, " + wrong + " not as due");
         if (wrong != 0 || asked == 0) {
             System.exit(1);
         }
+    }
+
+    private void needProof() {
+        if (!proved) {
+            tell("nothing was asked");
+        }
+    }
+
+    private void tell(String fault) {
+        wrong++;
+        System.out.println(sentence + fault);
     }
 }

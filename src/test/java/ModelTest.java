@@ -6,9 +6,11 @@ import java.util.Random;
 import java.util.regex.Matcher;
 import java.util.regex.Pattern;
 
-/** Long random runs: each call's answer, and all that can be asked then, against a second model. */
+/** Random runs: each call's answer, and all that can be asked at the end, against a second model. */
 public final class ModelTest {
     private static final int NO_SUCH = -1, BAD_VALUE = -2, BAD_TEXT = -3, TOO_MANY = -4, NOT_POSSIBLE = -5, NONE = -6;
+    /** Nothing is promised after an object's 512th call, and to ask for everything takes most of them. */
+    private static final int CHANGING_CALLS = 105;
     private static final Due due = new Due();
 
     private static final class Human {
@@ -545,11 +547,17 @@ public final class ModelTest {
         final Random dice;
         final boolean wild;
         final String name;
+        int calls;
 
         Run(int seed) {
             dice = new Random(seed);
             wild = seed % 4 == 0;
             name = "run " + seed;
+        }
+
+        void is(String call, int got, int want) {
+            calls++;
+            due.is(name + ", call " + calls + ": " + call, got, want);
         }
 
         /** A number from low to high, now and then one beside the range or far from it. */
@@ -599,13 +607,13 @@ public final class ModelTest {
             }
             for (int from = 0; from < text.length(); from += 8) {
                 String part = text.substring(from, Math.min(text.length(), from + 8));
-                due.is(name + ": put " + part, x.put(Due.packed(part)), m.put(Due.packed(part)));
+                is("put " + part, x.put(Due.packed(part)), m.put(Due.packed(part)));
             }
-            due.is(name + ": fault of " + m.pad, x.fault(), faultOf(m.pad));
+            is("fault of " + m.pad, x.fault(), faultOf(m.pad));
             String was = m.pad;
-            due.is(name + ": carryOut of " + was, x.carryOut(), m.carryOut());
+            is("carryOut of " + was, x.carryOut(), m.carryOut());
             if (!m.pad.isEmpty() && dice.nextInt(3) > 0) {
-                due.is(name + ": wipe", x.wipe(), m.wipe());
+                is("wipe", x.wipe(), m.wipe());
             }
         }
 
@@ -619,17 +627,17 @@ public final class ModelTest {
                 case 0: {
                     int setting = n(0, 3);
                     int value = n(0, 20);
-                    due.is(name + ": set", x.set(setting, value), m.changed(before, w.set(setting, value)));
+                    is("set", x.set(setting, value), m.changed(before, w.set(setting, value)));
                     break;
                 }
                 case 1: {
                     int full = n(10, 150);
-                    due.is(name + ": person", x.person(full), m.changed(before, w.person(full)));
+                    is("person", x.person(full), m.changed(before, w.person(full)));
                     break;
                 }
                 case 2: {
                     int bought = n(0, 2);
-                    due.is(name + ": buy", x.buy(bought), m.changed(before, w.buy(bought)));
+                    is("buy", x.buy(bought), m.changed(before, w.buy(bought)));
                     break;
                 }
                 case 3: case 4: {
@@ -638,29 +646,29 @@ public final class ModelTest {
                     int hours = n(1, 9);
                     int priority = n(0, 3);
                     int deadline = dice.nextBoolean() ? n(0, 20) : n(0, 999);
-                    due.is(name + ": job", x.job(weight, floor, hours, priority, deadline),
+                    is("job", x.job(weight, floor, hours, priority, deadline),
                             m.changed(before, w.job(weight, floor, hours, priority, deadline)));
                     break;
                 }
                 case 5: case 6: {
                     int crew = crew(job, kind);
-                    due.is(name + ": begin", x.begin(job, crew, kind), m.changed(before, w.begin(job, crew, kind)));
+                    is("begin", x.begin(job, crew, kind), m.changed(before, w.begin(job, crew, kind)));
                     break;
                 }
                 case 7:
-                    due.is(name + ": assign", x.assign(), m.changed(before, w.assign()));
+                    is("assign", x.assign(), m.changed(before, w.assign()));
                     break;
                 case 8: {
                     int hours = n(1, 20);
-                    due.is(name + ": delay", x.delay(job, hours), m.changed(before, w.delay(job, hours)));
+                    is("delay", x.delay(job, hours), m.changed(before, w.delay(job, hours)));
                     break;
                 }
                 case 9:
-                    due.is(name + ": callOff", x.callOff(job), m.changed(before, w.callOff(job)));
+                    is("callOff", x.callOff(job), m.changed(before, w.callOff(job)));
                     break;
                 default: {
                     int hours = dice.nextInt(6) == 0 ? n(1, 99) : n(1, 6);
-                    due.is(name + ": pass", x.pass(hours), m.changed(before, w.pass(hours)));
+                    is("pass", x.pass(hours), m.changed(before, w.pass(hours)));
                 }
             }
         }
@@ -672,59 +680,96 @@ public final class ModelTest {
             } else if (choice < 34) {
                 text();
             } else if (choice < 36) {
-                due.is(name + ": undo", x.undo(), m.undo());
+                is("undo", x.undo(), m.undo());
             } else if (choice < 37) {
                 int slot = n(0, 1);
-                due.is(name + ": save", x.save(slot), m.save(slot));
+                is("save", x.save(slot), m.save(slot));
             } else if (choice < 38) {
                 int slot = n(0, 1);
-                due.is(name + ": restore", x.restore(slot), m.restore(slot));
+                is("restore", x.restore(slot), m.restore(slot));
             } else {
                 long characters = dice.nextLong() >>> (8 * dice.nextInt(8));
-                due.is(name + ": put", x.put(characters), m.put(characters));
+                is("put", x.put(characters), m.put(characters));
             }
         }
 
-        void ask() {
+        void askOne() {
             World w = m.world;
             int job = job();
+            int person = n(0, Math.max(0, w.humans.size() - 1));
             int kind = kind();
-            int crew = crew(job, kind);
-            due.is(name + ": why", x.why(job, crew, kind), w.why(job, crew, kind));
-            due.is(name + ": crew", x.crew(job, kind), w.crew(job, kind));
-            due.is(name + ": bestStraps", x.bestStraps(job), w.bestStraps(job));
-            due.is(name + ": doneIn", x.doneIn(job), w.doneIn(job));
-            due.is(name + ": ifAssigned", x.ifAssigned(), w.twin().assign());
-            due.is(name + ": fault of " + m.pad, x.fault(), faultOf(m.pad));
-            for (int what = -1; what <= 16; what++) {
-                due.is(name + ": count " + what, x.count(what), w.count(what, m.pad.length(), m.history.size()));
+            int what = n(0, 12);
+            switch (dice.nextInt(12)) {
+                case 0: case 1: {
+                    int crew = crew(job, kind);
+                    is("why", x.why(job, crew, kind), w.why(job, crew, kind));
+                    break;
+                }
+                case 2: is("crew", x.crew(job, kind), w.crew(job, kind)); break;
+                case 3: is("bestStraps", x.bestStraps(job), w.bestStraps(job)); break;
+                case 4: is("doneIn", x.doneIn(job), w.doneIn(job)); break;
+                case 5: is("ifAssigned", x.ifAssigned(), w.twin().assign()); break;
+                case 6: is("fault of " + m.pad, x.fault(), faultOf(m.pad)); break;
+                case 7: is("ofJob " + job + " " + what, x.ofJob(job, what), w.ofJob(job, what)); break;
+                case 8: is("of " + person + " " + what, x.of(person, what), w.of(person, what)); break;
+                case 9: is("waiting " + what, x.waiting(what), w.waiting(what)); break;
+                case 10: is("straps " + kind + " " + job, x.straps(kind, job), w.straps(kind, job)); break;
+                default: is("count " + what, x.count(what), w.count(what, m.pad.length(), m.history.size()));
             }
         }
 
+        /** Some 390 calls at most: 15 for each job, 8 for each person, and 63. */
         void askAll() {
             World w = m.world;
-            for (int a = -1; a <= 16; a++) {
-                for (int what = -1; what <= 13; what++) {
-                    due.is(name + ": ofJob " + a + " " + what, x.ofJob(a, what), w.ofJob(a, what));
-                    due.is(name + ": of " + a + " " + what, x.of(a, what), w.of(a, what));
-                }
-                due.is(name + ": waiting " + a, x.waiting(a), w.waiting(a));
-                for (int b = -1; b <= 2; b++) {
-                    due.is(name + ": straps " + a + " " + b, x.straps(a, b), w.straps(a, b));
+            askOfAJobThatMayWait();
+            is("ifAssigned", x.ifAssigned(), w.twin().assign());
+            is("fault of " + m.pad, x.fault(), faultOf(m.pad));
+            for (int what = -1; what <= 16; what++) {
+                is("count " + what, x.count(what), w.count(what, m.pad.length(), m.history.size()));
+                is("waiting " + what, x.waiting(what), w.waiting(what));
+            }
+            for (int job = -1; job <= w.pianos.size(); job++) {
+                for (int what = w.noJob(job) ? 13 : -1; what <= 13; what++) {
+                    is("ofJob " + job + " " + what, x.ofJob(job, what), w.ofJob(job, what));
                 }
             }
+            for (int person = -1; person <= w.humans.size(); person++) {
+                for (int what = person < 0 || person == w.humans.size() ? 6 : -1; what <= 6; what++) {
+                    is("of " + person + " " + what, x.of(person, what), w.of(person, what));
+                }
+            }
+            for (int kind = -1; kind <= 3; kind++) {
+                for (int what = -1; what <= 2; what++) {
+                    is("straps " + kind + " " + what, x.straps(kind, what), w.straps(kind, what));
+                }
+            }
+        }
+
+        private void askOfAJobThatMayWait() {
+            World w = m.world;
+            int job = w.order().isEmpty() ? job() : w.order().get(0).number;
+            int kind = kind();
+            int crew = crew(job, kind);
+            is("why", x.why(job, crew, kind), w.why(job, crew, kind));
+            is("crew", x.crew(job, kind), w.crew(job, kind));
+            is("bestStraps", x.bestStraps(job), w.bestStraps(job));
+            is("doneIn", x.doneIn(job), w.doneIn(job));
         }
     }
 
     public static void main(String[] args) {
-        int runs = args.length > 0 ? Integer.parseInt(args[0]) : 300;
+        int runs = args.length > 0 ? Integer.parseInt(args[0]) : 8000;
         for (int seed = 0; seed < runs; seed++) {
             Run run = new Run(seed);
-            for (int call = 0; call < 150; call++) {
+            int changing = run.dice.nextInt(CHANGING_CALLS);
+            while (run.calls < changing) {
                 run.step();
-                run.ask();
-                run.askAll();
+                if (run.dice.nextInt(4) == 0) {
+                    run.askOne();
+                }
             }
+            run.askAll();
+            due.is(run.name + ": calls are at most 512", Math.max(512, run.calls), 512);
         }
         due.end();
     }
