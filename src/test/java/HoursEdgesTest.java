@@ -10,6 +10,7 @@ public final class HoursEdgesTest {
         pausedBelowTheLoad();
         pausedCrewRests();
         pausedEachForItself();
+        noHoursForOthers();
         tiredToZero();
         tiredByNothing();
         doneWithNoHourLeft();
@@ -118,6 +119,21 @@ public final class HoursEdgesTest {
         due.is("a job that waits has no hours", Firms.job(x, 50, 1), 3);
         x.pass(1);
         due.is("it still waits", x.ofJob(3, Firms.LEFT), 1);
+    }
+
+    private static void noHoursForOthers() {
+        due.says("For each job that is being done");
+        PianoCrews x = Firms.everyState();
+        x.delay(1, 3);
+        x.callOff(1);
+        due.is("none is done", x.pass(5), 0);
+        due.is("one that waits", x.ofJob(0, Firms.LEFT), 1);
+        due.is("one that was called off", x.ofJob(1, Firms.LEFT), 8);
+        due.is("its delay", x.ofJob(1, Firms.DELAY), 3);
+        due.is("one that is done", x.ofJob(2, Firms.LEFT), 0);
+        due.is("one that was called off as it waited", x.ofJob(3, Firms.LEFT), 1);
+        due.is("hours that were carried", x.count(8), 2);
+        due.is("hours that were paused", x.count(9), 0);
     }
 
     private static void tiredToZero() {
