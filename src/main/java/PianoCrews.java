@@ -845,7 +845,7 @@ public final class PianoCrews {
         }
 
         void note(Firm firm) {
-            states[(oldest + count) % ROWS].copyFrom(firm);
+            states[row(count)].copyFrom(firm);
         }
 
         int keepUnlessError(int answer) {
@@ -855,7 +855,7 @@ public final class PianoCrews {
             if (count < MOST_UNDONE) {
                 count++;
             } else {
-                oldest = (oldest + 1) % ROWS;
+                oldest = row(1);
             }
             return answer;
         }
@@ -865,8 +865,13 @@ public final class PianoCrews {
                 return NOT_POSSIBLE;
             }
             count--;
-            firm.copyFrom(states[(oldest + count) % ROWS]);
+            firm.copyFrom(states[row(count)]);
             return count;
+        }
+
+        /** Where in the ring a state stands, by its place behind the oldest one. */
+        private int row(int place) {
+            return Math.floorMod(oldest + place, ROWS);
         }
     }
 
@@ -989,7 +994,7 @@ public final class PianoCrews {
         private boolean readForm(String form) {
             boolean read = true;
             for (int index = 0; index < form.length() && read; index++) {
-                char part = form.charAt(index);
+                int part = form.charAt(index);
                 switch (part) {
                     case 'N': read = readNumber(NUMBER_DIGITS); break;
                     case 'D': read = readNumber(1); break;

@@ -1,22 +1,16 @@
-import java.io.IOException;
 import java.lang.reflect.Constructor;
 import java.lang.reflect.Field;
 import java.lang.reflect.Member;
 import java.lang.reflect.Method;
 import java.lang.reflect.Modifier;
-import java.nio.file.Files;
-import java.nio.file.Path;
 import java.util.ArrayList;
 import java.util.Arrays;
 import java.util.List;
 import java.util.Set;
 import java.util.TreeSet;
-import java.util.regex.Matcher;
-import java.util.regex.Pattern;
 
-/** The public face, and those rules of ../shared/LANGUAGE.md that can be seen from the class's words. */
+/** The public face: every constant, the constructor and every method, and no other member. */
 public final class FaceTest {
-    private static final Path SOURCE = Path.of("src/main/java/PianoCrews.java");
     private static final Due due = new Due();
 
     private static final String[] FACE = {
@@ -29,15 +23,9 @@ public final class FaceTest {
         "NO_SUCH=-1", "BAD_VALUE=-2", "BAD_TEXT=-3", "TOO_MANY=-4", "NOT_POSSIBLE=-5", "NONE=-6",
         "STEP=0", "REST=1", "TIRE=2", "HANDS=3",
     };
-    private static final String[] FORBIDDEN = {
-        "throw", "throws", "try", "catch", "finally", "synchronized", "assert", "import", "package", "->", "::",
-        "Object", "System.out", "Random", "Thread", "Exact", "equals", "hashCode", "toString",
-    };
 
     public static void main(String[] args) throws Exception {
         face();
-        words();
-        names();
         due.end();
     }
 
@@ -64,6 +52,8 @@ public final class FaceTest {
         for (Field f : c.getDeclaredFields()) {
             if (isSeen(f)) {
                 constants.add(f.getName() + "=" + f.get(null));
+                due.is(f + " is a constant", f.getModifiers(), Modifier.PUBLIC | Modifier.STATIC | Modifier.FINAL);
+                due.is(f + " is an int", f.getType() == int.class ? 1 : 0, 1);
             }
         }
         same("constants", constants, CONSTANTS);
@@ -79,42 +69,5 @@ public final class FaceTest {
             types.add(type.getName());
         }
         return m.getName() + "(" + String.join(",", types) + ")";
-    }
-
-    /** The words of the source, without its comments. */
-    private static String source() throws IOException {
-        String text = Files.readString(SOURCE);
-        return text.replaceAll("(?s)/\\*.*?\\*/", " ").replaceAll("//[^\n]*", " ");
-    }
-
-    private static void words() throws IOException {
-        String text = source();
-        for (String word : FORBIDDEN) {
-            Matcher found = Pattern.compile("(?<![A-Za-z])" + Pattern.quote(word) + "(?![A-Za-z])").matcher(text);
-            due.is("uses " + word, found.find() ? 1 : 0, 0);
-        }
-        due.is("other signs", text.chars().filter(sign -> sign > 126).count(), 0);
-    }
-
-    /** No other method bears the name of a public one, and a class has some twenty fields at most. */
-    private static void names() {
-        Set<String> open = new TreeSet<>();
-        for (String method : FACE) {
-            open.add(method.substring(0, method.indexOf('(')));
-        }
-        Class<?>[] inside = PianoCrews.class.getDeclaredClasses();
-        due.is("classes", inside.length < 12 ? 1 : 0, 1);
-        for (Class<?> c : inside) {
-            due.is(c + " is static", Modifier.isStatic(c.getModifiers()) ? 1 : 0, 1);
-            for (Method m : c.getDeclaredMethods()) {
-                due.is(m + " bears a public name", open.contains(m.getName()) ? 1 : 0, 0);
-                due.is(m + " has too many parameters", m.getParameterCount() > 7 ? 1 : 0, 0);
-            }
-            int fields = 0;
-            for (Field f : c.getDeclaredFields()) {
-                fields += Modifier.isStatic(f.getModifiers()) ? 0 : 1;
-            }
-            due.is(c + " fields", fields <= 20 ? 1 : 0, 1);
-        }
     }
 }
